@@ -16,10 +16,6 @@ public final class HostageRound {
     private static final int GOES = 0, STAYS = 1, MARRIED = 2;
     private static final int CAN_BE = 0, ONE_IS_DEAD = 1, BOTH_ARE_ONE = 2, NO_FIRST_DAY = 3, IS_BOUND = 4;
     private static final int DEAD_DIGIT = 6;
-    // From the next equinox on all goes round in five seasons at most.
-    private static final int SEASONS_TILL_SEEN = 2 * MOST_LANDS;
-    // A letter and a CHILD are as they were behind n (n - 1) seasons, 30 at most.
-    private static final int SEASONS_OF_LETTERS = 40;
 
     private final Round now = new Round();
     private final Round tried = new Round();
@@ -99,8 +95,7 @@ public final class HostageRound {
         if (pad.firstFault(now.lands) != NONE) {
             return NO;
         }
-        tryYears();
-        if (years.why == CAN_BE) {
+        if (years.canBe(now, tried, pad)) {
             return NONE;
         }
         return what == 0 ? years.acts : years.why;
@@ -172,7 +167,7 @@ public final class HostageRound {
         if (!now.hasBoth(child, other)) {
             return UNKNOWN;
         }
-        for (int e = 0; e <= SEASONS_TILL_SEEN; e++) {
+        for (int e = 0; e <= now.lands; e++) {
             if (now.shareALand(child, other, e)) {
                 return now.firstDayAfter(e);
             }
@@ -208,7 +203,7 @@ public final class HostageRound {
         if (!within(w, 1, LONGEST_WAR)) {
             return OUTSIDE;
         }
-        return firstWar(king, land, w);
+        return now.firstWar(king, land, w);
     }
 
     public int longest(int king, int land, int d) {
@@ -243,7 +238,11 @@ public final class HostageRound {
         }
         int safe = 0;
         for (int land = 0; land < now.lands; land++) {
-            if (nobodyMayStrike(land, w)) {
+            boolean struck = false;
+            for (int king = 0; king < now.lands; king++) {
+                struck |= king != land && now.firstWar(king, land, w) != NONE;
+            }
+            if (!struck) {
                 safe |= 1 << land;
             }
         }
@@ -279,7 +278,9 @@ public final class HostageRound {
         if (!now.has(king)) {
             return UNKNOWN;
         }
-        for (int e = 1; e <= SEASONS_OF_LETTERS; e++) {
+        // A letter is where it was behind n seasons, a CHILD behind n - 1.
+        int seasons = now.lands * (now.lands - 1);
+        for (int e = 1; e <= seasons; e++) {
             int days = now.firstDayAfter(e);
             if (days <= LAST_DAY && now.landAfter(king, e) == leftOver(king - e, now.lands)) {
                 return days;
@@ -366,7 +367,7 @@ public final class HostageRound {
         int changes = 0;
         for (int child = 0; child < tried.lands; child++) {
             if (tried.lives(child) && tried.name.get(child) != child) {
-                tried.changeHats(child, tried.bearerOf(child));
+                tried.swapNames(child, tried.bearerOf(child));
                 changes++;
             }
         }
@@ -450,38 +451,8 @@ public final class HostageRound {
         return n == 0 ? firstImage : secondImage;
     }
 
-    private void tryYears() {
-        tried.takeOver(now);
-        tried.went.fill(0);
-        years.runOn(tried, pad);
-    }
-
     private boolean yearsCanBe() {
-        if (pad.firstFault(now.lands) != NONE) {
-            return false;
-        }
-        tryYears();
-        return years.why == CAN_BE;
-    }
-
-    // A WAR that MAY begin on a later day of a season MAY begin on its first day, or now.
-    private int firstWar(int king, int land, int w) {
-        for (int e = 0; e <= SEASONS_TILL_SEEN; e++) {
-            int d = now.firstDayAfter(e);
-            if (d <= LAST_DAY && now.daysAway(king, land, d) >= w) {
-                return d;
-            }
-        }
-        return NONE;
-    }
-
-    private boolean nobodyMayStrike(int land, int w) {
-        for (int king = 0; king < now.lands; king++) {
-            if (king != land && firstWar(king, land, w) != NONE) {
-                return false;
-            }
-        }
-        return true;
+        return pad.firstFault(now.lands) == NONE && years.canBe(now, tried, pad);
     }
 
     private void drawYear(int seed, int m) {
@@ -498,14 +469,10 @@ public final class HostageRound {
         int other = leftOver(x / 64, tried.lands);
         switch (x % 8) {
             case 0:
-                if (tried.whyNotBind(child) == CAN_BE) {
-                    tried.bond.put(child, STAYS);
-                }
+                tried.bind(child, STAYS);
                 break;
             case 1:
-                if (tried.whyNotChangeHats(child, other) == CAN_BE) {
-                    tried.changeHats(child, other);
-                }
+                tried.changeHats(child, other);
                 break;
             case 2:
             case 3:
@@ -522,7 +489,11 @@ public final class HostageRound {
     }
 
     private static int leftOver(int v, int by) {
-        return by > 0 ? Math.floorMod(v, by) : 0;
+        if (by <= 0) {
+            return 0;
+        }
+        int rest = v % by;
+        return rest < 0 ? rest + by : rest;
     }
 
     private static int cut(int v, int by) {
@@ -593,9 +564,11 @@ public final class HostageRound {
         int season;
         int living;
         int sights;
-        final Row land = new Row(MOST_LANDS);
+        // How many LANDS behind the first one that a CHILD goes to, its own left out.
+        final Row place = new Row(MOST_LANDS);
         final Row name = new Row(MOST_LANDS);
         final Row bond = new Row(MOST_LANDS);
+        // Counted for the YEARS that are tried alone, so it is not taken over.
         final Row went = new Row(MOST_LANDS);
         final Row coughs = new Row(MOST_LANDS);
         final Row cold = new Row(MOST_LANDS);
@@ -609,12 +582,11 @@ public final class HostageRound {
             season = 0;
             sights = 0;
             living = (1 << n) - 1;
+            place.fill(0);
             bond.fill(GOES);
-            went.fill(0);
             coughs.fill(0);
             cold.fill(0);
             for (int child = 0; child < n; child++) {
-                land.put(child, leftOver(child + 1, n));
                 name.put(child, child);
             }
         }
@@ -627,10 +599,9 @@ public final class HostageRound {
             season = other.season;
             living = other.living;
             sights = other.sights;
-            land.takeOver(other.land);
+            place.takeOver(other.place);
             name.takeOver(other.name);
             bond.takeOver(other.bond);
-            went.takeOver(other.went);
             coughs.takeOver(other.coughs);
             cold.takeOver(other.cold);
             sightName.takeOver(other.sightName);
@@ -646,7 +617,7 @@ public final class HostageRound {
         }
 
         boolean lives(int child) {
-            return has(child) && (living >> child & 1) == 1;
+            return child >= 0 && child < lands && (living >> child & 1) == 1;
         }
 
         int bearerOf(int wanted) {
@@ -658,39 +629,45 @@ public final class HostageRound {
             return NONE;
         }
 
-        // ACTS
+        // ACTS: each answers why it can not be, or is so and answers CAN_BE
 
-        int whyNotDie(int child) {
-            return lives(child) ? CAN_BE : ONE_IS_DEAD;
-        }
-
-        int whyNotBind(int child) {
+        int die(int child) {
             if (!lives(child)) {
                 return ONE_IS_DEAD;
             }
-            return bond.get(child) == GOES ? CAN_BE : IS_BOUND;
+            living &= ~(1 << child);
+            return CAN_BE;
         }
 
-        int whyNotChangeHats(int child, int other) {
+        int bind(int child, int how) {
+            if (!lives(child)) {
+                return ONE_IS_DEAD;
+            }
+            if (bond.get(child) != GOES) {
+                return IS_BOUND;
+            }
+            bond.put(child, how);
+            return CAN_BE;
+        }
+
+        int changeHats(int child, int other) {
             if (!lives(child) || !lives(other)) {
                 return ONE_IS_DEAD;
             }
             if (child == other) {
                 return BOTH_ARE_ONE;
             }
-            return dayOfSeason == 0 ? CAN_BE : NO_FIRST_DAY;
-        }
-
-        void die(int child) {
-            if (lives(child)) {
-                living &= ~(1 << child);
+            if (dayOfSeason != 0) {
+                return NO_FIRST_DAY;
             }
+            swapNames(child, other);
+            return CAN_BE;
         }
 
-        void changeHats(int child, int other) {
-            int own = name.get(child);
+        void swapNames(int child, int other) {
+            int before = name.get(child);
             name.put(child, name.get(other));
-            name.put(other, own);
+            name.put(other, before);
         }
 
         void passDays(int days) {
@@ -716,19 +693,14 @@ public final class HostageRound {
                 if (bond.get(child) == STAYS) {
                     bond.put(child, GOES);
                 } else if (bond.get(child) == GOES && lives(child)) {
-                    land.put(child, landFurther(child, 1));
+                    place.put(child, leftOver(place.get(child) + 1, lands - 1));
                     went.put(child, went.get(child) + 1);
                 }
             }
         }
 
-        // WHAT IS AHEAD, nothing else happening
-
-        // A CHILD's own LAND is left out, so it goes round the other n - 1.
-        private int landFurther(int child, int steps) {
-            int behindOwn = leftOver(land.get(child) - child - 1, lands);
-            return leftOver(child + 1 + leftOver(behindOwn + steps, lands - 1), lands);
-        }
+        // WHAT IS AHEAD, nothing else happening: from the next equinox on each CHILD is again
+        // where it was behind n - 1 seasons, so who looks at n seasons and one has seen all.
 
         int landAfter(int child, int equinoxes) {
             if (!lives(child)) {
@@ -740,13 +712,13 @@ public final class HostageRound {
             } else if (bond.get(child) == MARRIED) {
                 steps = 0;
             }
-            return landFurther(child, steps);
+            return leftOver(child + 1 + leftOver(place.get(child) + steps, lands - 1), lands);
         }
 
-        int guestsAfter(int place, int equinoxes) {
+        int guestsAfter(int land, int equinoxes) {
             int guests = 0;
             for (int child = 0; child < lands; child++) {
-                if (landAfter(child, equinoxes) == place) {
+                if (landAfter(child, equinoxes) == land) {
                     guests |= 1 << child;
                 }
             }
@@ -754,8 +726,8 @@ public final class HostageRound {
         }
 
         boolean shareALand(int child, int other, int equinoxes) {
-            int place = landAfter(child, equinoxes);
-            return place != NONE && place == landAfter(other, equinoxes);
+            int land = landAfter(child, equinoxes);
+            return land != NONE && land == landAfter(other, equinoxes);
         }
 
         int equinoxesTill(int d) {
@@ -775,14 +747,25 @@ public final class HostageRound {
             return cut(days, roundDays) * longDays + Math.max(0, Math.min(longDays, inLastRound));
         }
 
-        int daysAway(int child, int place, int d) {
+        int daysAway(int child, int land, int d) {
             int first = equinoxesTill(d);
-            for (int e = first; e <= first + SEASONS_TILL_SEEN; e++) {
-                if (landAfter(child, e) == place) {
+            for (int e = first; e <= first + lands; e++) {
+                if (landAfter(child, e) == land) {
                     return Math.max(0, Math.min(LAST_DAY, firstDayAfter(e) - d));
                 }
             }
             return LAST_DAY;
+        }
+
+        // A WAR that MAY begin on a later day of a season MAY begin on its first day, or now.
+        int firstWar(int king, int land, int w) {
+            for (int e = 0; e <= lands; e++) {
+                int d = firstDayAfter(e);
+                if (d <= LAST_DAY && daysAway(king, land, d) >= w) {
+                    return d;
+                }
+            }
+            return NONE;
         }
 
         int fursAfter(int equinoxes) {
@@ -807,9 +790,9 @@ public final class HostageRound {
 
         int emptyLands() {
             int empty = 0;
-            for (int place = 0; place < lands; place++) {
-                if (guestsAfter(place, 0) == 0) {
-                    empty |= 1 << place;
+            for (int land = 0; land < lands; land++) {
+                if (guestsAfter(land, 0) == 0) {
+                    empty |= 1 << land;
                 }
             }
             return empty;
@@ -865,16 +848,18 @@ public final class HostageRound {
         }
     }
 
-    /** YEARS without a FAULT, ACT by ACT, up to the first that can not be. */
+    /** YEARS without a FAULT, tried ACT by ACT up to the first that can not be. */
     private static final class Years {
         int acts;
         int why;
 
-        void runOn(Round round, Pad pad) {
+        boolean canBe(Round from, Round round, Pad pad) {
+            round.takeOver(from);
+            round.went.fill(0);
             acts = 0;
             why = CAN_BE;
             int i = 0;
-            while (i < pad.signs) {
+            while (i < pad.signs && why == CAN_BE) {
                 int sign = pad.text.get(i);
                 if (Pad.isTime(sign)) {
                     passTime(round, sign);
@@ -883,56 +868,34 @@ public final class HostageRound {
                     why = befall(round, sign - 'A', pad.text.get(i + 1));
                     i += 2;
                 }
-                if (why != CAN_BE) {
-                    return;
+                if (why == CAN_BE) {
+                    acts++;
                 }
-                acts++;
             }
+            return why == CAN_BE;
         }
 
         private static void passTime(Round round, int sign) {
-            if (sign == ';') {
-                round.passSeason();
-            } else {
-                round.passDays(sign == ':' ? 10 : 1);
+            switch (sign) {
+                case '.':
+                    round.passDays(1);
+                    break;
+                case ':':
+                    round.passDays(10);
+                    break;
+                default:
+                    round.passSeason();
+                    break;
             }
         }
 
         private static int befall(Round round, int child, int fate) {
-            if (fate == 'd') {
-                return tryDeath(round, child);
+            switch (fate) {
+                case 'd': return round.die(child);
+                case 's': return round.bind(child, STAYS);
+                case 'm': return round.bind(child, MARRIED);
+                default: return round.changeHats(child, fate - 'A');
             }
-            if (fate == 's') {
-                return tryBond(round, child, STAYS);
-            }
-            if (fate == 'm') {
-                return tryBond(round, child, MARRIED);
-            }
-            return tryHats(round, child, fate - 'A');
-        }
-
-        private static int tryDeath(Round round, int child) {
-            int reason = round.whyNotDie(child);
-            if (reason == CAN_BE) {
-                round.die(child);
-            }
-            return reason;
-        }
-
-        private static int tryBond(Round round, int child, int bond) {
-            int reason = round.whyNotBind(child);
-            if (reason == CAN_BE) {
-                round.bond.put(child, bond);
-            }
-            return reason;
-        }
-
-        private static int tryHats(Round round, int child, int other) {
-            int reason = round.whyNotChangeHats(child, other);
-            if (reason == CAN_BE) {
-                round.changeHats(child, other);
-            }
-            return reason;
         }
     }
 
