@@ -87,6 +87,10 @@ public final class FaceTest {
                 Modifier.isPrivate(c.getModifiers()) && Modifier.isStatic(c.getModifiers()));
             long fields = Arrays.stream(c.getDeclaredFields()).filter(f -> !Modifier.isStatic(f.getModifiers())).count();
             due.holds(c.getName() + " has some twenty fields at most", fields <= 20);
+            for (Method m : c.getDeclaredMethods()) {
+                due.holds("no " + m.getName() + " inside",
+                    Arrays.stream(METHODS).noneMatch(face -> face.contains(" " + m.getName() + "(")));
+            }
             for (Field f : c.getDeclaredFields()) {
                 due.holds(c.getName() + "." + f.getName(),
                     !Modifier.isStatic(f.getModifiers()) || Modifier.isFinal(f.getModifiers()));
