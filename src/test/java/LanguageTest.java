@@ -20,6 +20,7 @@ public final class LanguageTest {
         due.is("texts", count(code, "\""), 0);
         due.is("casts", count(code, "\\((int|long|char|byte|short|[A-Z]\\w*)\\) *[\\w(]"), 0);
         due.is("new arrays, the one in Row", count(code, "new \\w+\\["), 1);
+        due.is("objects, none made by a call", count(code, "\\bnew\\b"), 1 + count(code, "(?m)^ +(private )?final \\w+ \\w+ = new \\w+\\("));
         due.is("indexes, those in Row", count(code, "\\w\\["), 2 + count(code, "cells\\["));
         due.is("divisors, those that are looked at", count(code, "[^/*]/[^/*]|%"), 8);
         due.is("signs beyond 126", source.chars().filter(c -> c > 126).count(), 0);
