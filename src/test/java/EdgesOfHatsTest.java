@@ -252,6 +252,8 @@ public final class EdgesOfHatsTest {
         HostageRound x = Due.fresh(3, 90);
         x.seen(0, true);
         rows(x);
+        x.seen(0, false);
+        rows(x);
         x.forget();
         rows(x, 12, 21, 102, 120, 201, 210);
         x.set(0, 1, 1);
